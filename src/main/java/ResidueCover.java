@@ -762,6 +762,18 @@ public final class ResidueCover {
         return bits >= WORD_BITS ? -1L : (1L << Math.max(0, bits)) - 1;
     }
 
+    private static boolean hasBit(long[] row, int v) {
+        int word = v / WORD_BITS;
+        return within(word, 0, row.length - 1) && ((row[word] >> (v % WORD_BITS)) & 1L) == 1L;
+    }
+
+    private static void putBit(long[] row, int v) {
+        int word = v / WORD_BITS;
+        if (within(word, 0, row.length - 1)) {
+            row[word] |= 1L << (v % WORD_BITS);
+        }
+    }
+
     private static int wordsFor(int span) {
         return Math.min(SPAN_WORDS, (span + WORD_BITS - 1) / WORD_BITS);
     }
@@ -842,7 +854,7 @@ public final class ResidueCover {
         }
 
         boolean isOn(int k) {
-            return isThere(k) && isIn(on, k);
+            return k >= 0 && k < count && isIn(on, k);
         }
 
         int find(long wanted) {
@@ -1066,7 +1078,8 @@ public final class ResidueCover {
     private static final class Sieve {
         private final long[] once = new long[SPAN_WORDS];
         private final long[] twice = new long[SPAN_WORDS];
-        private final boolean[] failing = new boolean[1 << MOST_CLASSES];
+        /** A bit for each set of classes. */
+        private final long[] failing = new long[(1 << MOST_CLASSES) / WORD_BITS];
         private int span = 1;
         private int words = 1;
 
@@ -1089,12 +1102,13 @@ public final class ResidueCover {
 
         private void lay(int modulus, int rest) {
             long comb = combOf(modulus);
+            int back = leftBy(WORD_BITS, modulus);
             int offset = rest;
             for (int w = 0; w < words; w++) {
                 long bits = comb << offset;
                 twice[w] |= once[w] & bits;
                 once[w] |= bits;
-                offset = leftBy(offset - WORD_BITS, modulus);
+                offset = offset < back ? offset - back + modulus : offset - back;
             }
         }
 
@@ -1127,7 +1141,7 @@ public final class ResidueCover {
             for (int i = 0; i < k; i++) {
                 left &= left - 1;
             }
-            return Long.numberOfTrailingZeros(left);
+            return Long.bitCount((left & -left) - 1);
         }
 
         int countOnlyBy(Classes all, int k) {
@@ -1166,28 +1180,30 @@ public final class ResidueCover {
 
         int leastSet(Classes all) {
             int sets = 1 << all.count;
-            markFailing(all, sets);
+            findFailing(all, sets);
             int best = all.on;
             for (int set = 0; set < sets; set++) {
                 boolean allOn = (set & ~all.on) == 0;
-                if (allOn && !failing[sets - 1 - set] && Integer.bitCount(set) < Integer.bitCount(best)) {
+                if (allOn && !hasBit(failing, sets - 1 - set) && Integer.bitCount(set) < Integer.bitCount(best)) {
                     best = set;
                 }
             }
             return best;
         }
 
-        /** Marks the sets that can't be left out: some number is caught, but by none outside of the set. */
-        private void markFailing(Classes all, int sets) {
-            Arrays.fill(failing, false);
+        /** Finds the sets that can't be left out: some number is caught, but by none outside of the set. */
+        private void findFailing(Classes all, int sets) {
+            Arrays.fill(failing, 0L);
             for (int v = 0; v < span; v++) {
-                failing[all.catchers(v)] = true;
+                int set = all.catchers(v);
+                if (set != 0) {
+                    putBit(failing, set);
+                }
             }
-            failing[0] = false;
             for (int k = 0; k < all.count; k++) {
                 for (int set = 0; set < sets; set++) {
-                    if (isIn(set, k) && failing[set ^ (1 << k)]) {
-                        failing[set] = true;
+                    if (isIn(set, k) && hasBit(failing, set ^ (1 << k))) {
+                        putBit(failing, set);
                     }
                 }
             }
@@ -1205,15 +1221,11 @@ public final class ResidueCover {
 
         private boolean comesAgainBy(int n) {
             for (int v = 0; v + n < span; v++) {
-                if (isCaught(v) != isCaught(v + n)) {
+                if (hasBit(once, v) != hasBit(once, v + n)) {
                     return false;
                 }
             }
             return true;
-        }
-
-        private boolean isCaught(int v) {
-            return ((once[v / WORD_BITS] >> (v % WORD_BITS)) & 1L) == 1L;
         }
     }
 
@@ -1373,7 +1385,7 @@ public final class ResidueCover {
     /** The game of two who switch. */
     private static final class Game {
         /** What a set of classes that are on comes to in the end, by best play. */
-        static int worth(Classes all, Sieve sieve, int set, int turns, boolean wantsMany) {
+        private static int worth(Classes all, Sieve sieve, int set, int turns, boolean wantsMany) {
             if (turns < 1) {
                 return sieve.fill(all, set) ? partBy(sieve.countGaps() * MOST_SPAN, sieve.span) : 0;
             }
@@ -1888,10 +1900,14 @@ public final class ResidueCover {
                 case LOOP:
                     roundsLeft[at] = days.number[at];
                     return at + 1;
+                case ANY:
+                    missed += chance(all) ? 0 : 1;
+                    return at + 1;
+                case SPLIT:
+                    missed += partIfItCan(all, days.who[at], days.number[at]) ? 0 : 1;
+                    return at + 1;
                 default:
-                    if (!act(all, days, at)) {
-                        missed++;
-                    }
+                    missed += act(all, days, at) ? 0 : 1;
                     return at + 1;
             }
         }
@@ -1926,7 +1942,7 @@ public final class ResidueCover {
             return sign == MORE ? many > number : many == number;
         }
 
-        /** Answers false if the step is missed. */
+        /** An on, an off or a shift; like those of the other steps, false if it is missed. */
         private boolean act(Classes all, Days days, int at) {
             int who = days.who[at];
             switch (days.kind[at]) {
@@ -1934,12 +1950,8 @@ public final class ResidueCover {
                     return all.isThere(who) && !all.isOn(who) && flip(all, who);
                 case OFF:
                     return all.isOn(who) && flip(all, who);
-                case SHIFT:
-                    return days.number[at] != 0 && slide(all, days.number[at]);
-                case SPLIT:
-                    return partIfItCan(all, who, days.number[at]);
                 default:
-                    return chance(all);
+                    return days.number[at] != 0 && slide(all, days.number[at]);
             }
         }
 
