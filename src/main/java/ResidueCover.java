@@ -1285,14 +1285,13 @@ public final class ResidueCover {
 
         private final int[] moduli = new int[MOST_MODULI];
         private final int[] rests = new int[MOST_MODULI];
-        /** At each place, what the moduli ahead of it catch. */
+        /** At each place, what the moduli ahead of it catch; ahead of the first one nothing is, ever. */
         private final long[][] caughtAhead = new long[MOST_MODULI + 1][SPAN_WORDS];
         private int many = 0;
         private int sort = ALL;
         private int span = 1;
 
         boolean takeModuli(Tray tray, int n) {
-            many = 0;
             for (int i = 0; i < n && i < MOST_MODULI; i++) {
                 long v = tray.at(i);
                 if (!within(v, 1, MOST_MODULUS)) {
@@ -1332,7 +1331,6 @@ public final class ResidueCover {
             for (int i = 0; i < many; i++) {
                 span *= partBy(moduli[i], (int) commonDivisor(span, moduli[i]));
             }
-            Arrays.fill(caughtAhead[0], 0L);
         }
 
         /** With justOne it ends at the first way found, whose rests are then in the row. */
@@ -1689,11 +1687,6 @@ public final class ResidueCover {
         int append(int newKind) {
             int at = Math.min(count, MOST_ENTRIES - 1);
             kind[at] = newKind;
-            test[at] = 0;
-            sign[at] = 0;
-            who[at] = NONE;
-            number[at] = 0;
-            partner[at] = NONE;
             count = at + 1;
             return at;
         }

@@ -26,6 +26,7 @@ public final class PromiseTest {
         means();
         marks();
         wideSpans();
+        fullHouse();
         System.out.println(wrong == 0 ? "all promises hold" : wrong + " answers are not as due");
         System.exit(wrong == 0 ? 0 : 1);
     }
@@ -315,6 +316,28 @@ public final class PromiseTest {
         daysFaults();
         good("the old ones stay", x.live(0), 1);
         good("a is off", x.classOf(0, 2), 0);
+        manyEnds();
+        names();
+    }
+
+    private static void manyEnds() {
+        of(11);
+        daysOfText(repeat("loop 1;end;", 27), 27);
+        good("each end has its own beginning", x.live(0), 27);
+        daysOfText(repeat("when caught 1;end;", 15) + repeat("loop 2;any;end;", 2), 19);
+        good("with what is within", x.live(0), 15 + 2 + 4);
+        good("missed", x.lived(0), 4);
+    }
+
+    private static void names() {
+        of(10);
+        good("names of the same letters", system("class ab rest 0 by 2; class ba rest 0 by 3; class a rest 0 by 4; "
+                + "class aa rest 0 by 5; class aaaaaaaa rest 0 by 6; class baaaaaaa rest 0 by 7; class zzzzzzzz rest 0 by 8;"), 7);
+        daysOfText("off ba; off aaaaaaaa; off zzzzzzzz;", 3);
+        good("live", x.live(0), 3);
+        good("those three", x.told(2), 127 - 2 - 16 - 64);
+        system("class onn rest 0 by 2; class o rest 0 by 3; class odd rest 0 by 4; class restby rest 0 by 5;");
+        daysOfText("off onn;off o;off odd;off restby;", 4);
     }
 
     private static void daysFaults() {
@@ -1018,5 +1041,56 @@ public final class PromiseTest {
         refused("55,440 is none", x.told(3), 7);
         x.turn(3);
         good("off, it does not count", x.told(3), 5040);
+    }
+
+    /** Twelve classes and the greatest span: all rows are used to their ends. */
+    private static void fullHouse() {
+        of(13);
+        int[] moduli = {48, 45, 7, 16, 9, 5, 21, 35, 15, 60, 40, 42};
+        for (int k = 0; k < 12; k++) {
+            good("add", x.add(0, moduli[k]), k);
+        }
+        good("span", x.told(3), 5040);
+        // Open is what neither 5, 7, 9 nor 16 divides: of 5,040 numbers 4 by 5, 6 by 7, 8 by 9, 15 by 16 ..
+        int open = 4 * 6 * 8 * 15;
+        good("gaps", x.told(4), open);
+        good("couples", x.told(6), 66);
+        good("unlike", x.told(7), 1);
+        fraction("gaps", x.gaps(), open / 720, 7);
+        good("first gap", x.gapAt(0), 1);
+        good("last gap", x.gapAt(open - 1), 5039);
+        refused("behind it", x.gapAt(open), 6);
+        good("fewest", x.fewestSet(), 4 + 8 + 16 + 32);
+        good("needless", x.needless(), 4095 - 4 - 8 - 16 - 32);
+        good("thick", x.thick(), 12);
+        good("ask", x.ask(), 0);
+        good("turnsBy", x.turnsBy(), 5040);
+        good("greatest m", x.tree(3), 5040);
+        good("leaf", x.leafOf(1), 5040);
+        good("game", x.game(0), open);
+        // Without 5 those of its numbers are open that neither 3, 7 nor 8 divides: 1 by 5, 2 by 3, 6 by 7, 7 by 8.
+        good("without 5", x.game(1), open + 504);
+        good("moveOf", x.moveOf(1), 5);
+        good("tightest", x.tightest(5040), 5);
+        good("meet", x.meet(10, 11), 0);
+        x.shift(59);
+        good("shifted", x.classOf(11, 0), 17);
+        refused("split", x.split(0, 2), 4);
+        refused("spread", x.spread(2), 7);
+        refused("join", x.join(0, 3), 6);
+        x.tray(0, 0, 24);
+        good("copy", x.copySystem(0), 12);
+        good("the last", x.read(0, 23), 42);
+        x.tray(1, 0, 6);
+        int[] six = {5, 7, 9, 16, 1, 1};
+        for (int i = 0; i < 6; i++) {
+            x.write(1, i, six[i]);
+        }
+        good("choices", x.choices(1, 6, 0), 5040);
+        good("none is free of the others", x.choices(1, 4, 2), 0);
+        good("the last rest", x.choiceAt(1, 6, 0, 5), 0);
+        good("drop", x.drop(11), 11);
+        good("drop", x.drop(0), 10);
+        good("the last", x.classOf(9, 1), 40);
     }
 }
