@@ -202,6 +202,9 @@ final class EdgesOfCatching extends Bench {
         gives("with all odd ones", x.needless(), 3 + 4 + 8 + 16);
         x.turn(2);
         gives("without 1 by 4", x.needless(), 3 + 8);
+        anew();
+        put("0/2+ 0/2+ 0/4- 1/4-");
+        gives("not what is off, though two others catch all its numbers", x.needless(), 3);
         promise(30, "The set of CLASSES that are NEEDLESS (7).");
         gives("without classes", x.needless(), 0);
         put("0/2-");
@@ -352,6 +355,15 @@ final class EdgesOfCatching extends Bench {
         gives("30", x.turnsBy(), 30);
         put("15/30+ 0/59-");
         gives("15", x.turnsBy(), 15);
+        anew();
+        for (int rest = 0; rest < 7; rest++) {
+            x.add(rest, 14);
+            x.add(rest + 7, 14);
+            gives("7, shifted by " + rest, x.turnsBy(), 7);
+            x.drop(1);
+            gives("14", x.turnsBy(), 14);
+            x.drop(0);
+        }
         put("0/1+");
         gives("covered", x.turnsBy(), 1);
         anew();
@@ -406,6 +418,10 @@ final class EdgesOfCatching extends Bench {
         put("0/11+");
         refused("above 5,040", x.tree(0), 7);
         refused("above 5,040, and what", x.tree(4), 1);
+        takes("class a rest 0 by 3;", 1);
+        treeIs("a small one behind a great one", 1, 2, 4, 3);
+        takes("", 0);
+        treeIs("none behind a small one", 0, 1, 1, 1);
     }
 
     private void leafOf() {

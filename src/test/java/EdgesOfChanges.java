@@ -280,6 +280,13 @@ final class EdgesOfChanges extends Bench {
         allAre("by 59", "4/7+ 3/7- 0/1+ 59/60+");
         promise(21, "SHIFT by n (0 to 59) (1).");
         does("without classes", x.shift(59));
+        takes(classes(12), 12);
+        x.spread(60);
+        does("of twelve", x.shift(59));
+        for (int k = 0; k < 12; k++) {
+            gives("rest of " + k, x.classOf(k, 0), 59);
+        }
+        anew();
         put("5/7+ 8/9-");
         does("by 0", x.shift(0));
         allAre("by 0", "5/7+ 8/9-");

@@ -270,6 +270,11 @@ final class EdgesOfLives extends Bench {
         gives("a stop is one, and ends all", x.live(0), 3);
         allAre("then", "1/60+");
         gives("not cut", x.lived(4), 0);
+        takesDays("when on a;shift 1;end;", 2);
+        gives("what is left of a loop is none of the next days", x.live(0), 2);
+        gives("a test's steps are done once", x.lived(3), 1);
+        takesDays("loop 2;shift 1;end;", 2);
+        gives("nor of a loop in its place", x.live(0), 3);
         takesDays("", 0);
         gives("days of no step", x.live(0), 0);
         for (int what = 0; what <= 4; what++) {

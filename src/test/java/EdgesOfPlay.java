@@ -3,6 +3,7 @@ final class EdgesOfPlay extends Bench {
     @Override
     void run() {
         choices();
+        choicesAnew();
         choiceOrder();
         choiceAt();
         choiceAtOrder();
@@ -39,11 +40,27 @@ final class EdgesOfPlay extends Bench {
         row(1, 60, 42, 2);
         // 2 has one parity, 60 and 42 the other, and these two are unlike by 3.
         gives("none twice by 5,040", x.choices(1, 3, 2), 2 * 30 * 14);
+        row(1, 5, 7, 9, 16);
+        gives("no two of which have a divisor in common, all", x.choices(1, 4, 0), 0);
+        gives("none twice", x.choices(1, 4, 2), 0);
+        row(1, 5, 7, 9, 16, 1);
+        gives("and 1: each way of 5,040", x.choices(1, 5, 0), 5040);
+        gives("the last rest", x.choiceAt(1, 5, 0, 4), 0);
         row(1, 3, 41, 41);
         refused("5,043", x.choices(1, 3, 0), 7);
         gives("the first two: 123", x.choices(1, 2, 2), 0);
         row(1, 60, 60, 60, 60, 60, 60);
         refused("above what an int tells", x.choices(1, 6, 2), 7);
+    }
+
+    /** One call's moduli are none of the next one's. */
+    private void choicesAnew() {
+        term("how many ways there are to give each a REST");
+        for (int m = 60; m >= 1; m--) {
+            row(0, m);
+            gives("apart, by " + m, x.choices(0, 1, 2), m);
+            gives("all, by " + m, x.choices(0, 1, 0), m == 1 ? 1 : 0);
+        }
     }
 
     private void ways(String what, int n, int all, int once, int apart) {
@@ -166,6 +183,15 @@ final class EdgesOfPlay extends Bench {
         // 58 can be on with 60 alone or with 59 alone, not with both: with 59 57 by 59, 4,869.
         gives("two turns", x.game(2), 4872);
         gives("60 off would bring 4,869", x.moveOf(2), 1);
+        anew();
+        put("0/59+ 0/60- 0/7-");
+        // With 59 and 60 on 7 can't be; else the second would have it.
+        gives("60 on keeps 7 off", x.game(2), 4872);
+        gives("by 60", x.moveOf(2), 1);
+        anew();
+        put("0/59- 0/58+ 0/57+ 0/1+ 0/1+");
+        gives("covered, come what may", x.game(1), 0);
+        gives("59 can't be, 58 is as good as any", x.moveOf(1), 1);
         anew();
         put("0/60+ 0/59+ 0/58- 0/1-");
         gives("the second has 1", x.game(2), 0);

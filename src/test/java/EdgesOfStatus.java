@@ -8,6 +8,7 @@ final class EdgesOfStatus extends Bench {
     @Override
     void run() {
         order();
+        zeroElse();
         fullOrder();
         nothingChanges();
         nothingChangesWithNine();
@@ -55,6 +56,77 @@ final class EdgesOfStatus extends Bench {
         refused("1 ahead of 9", x.days(-1), 1);
         refused("9", x.days(1), 9);
         gives("0 else", x.told(0), 5);
+    }
+
+    private void goodBehindBad(String call, Consumer<ResidueCover> made) {
+        rich();
+        x.turn(0);
+        x.turn(1);
+        refused("turn", x.turn(99), 1);
+        made.accept(x);
+        due("status behind " + call, x.status(), 0);
+    }
+
+    private void zeroElse() {
+        term("0 else.");
+        goodBehindBad("tray", c -> c.tray(0, 0, 1));
+        goodBehindBad("write", c -> c.write(1, 0, 1));
+        goodBehindBad("read", c -> c.read(1, 0));
+        goodBehindBad("pour", c -> c.pour(0, 0, 0, 1, 1));
+        goodBehindBad("system", c -> c.system(31));
+        goodBehindBad("days", c -> c.days(0));
+        for (int i = 0; i < 8; i++) {
+            int what = i;
+            goodBehindBad("told", c -> c.told(what));
+            goodBehindBad("classOf", c -> c.classOf(0, what % 3));
+            goodBehindBad("tree", c -> c.tree(what % 4));
+            goodBehindBad("lived", c -> c.lived(what % 5));
+        }
+        goodBehindBad("caught", c -> c.caught(0));
+        goodBehindBad("tightest", c -> c.tightest(0));
+        goodBehindBad("turn", c -> c.turn(0));
+        goodBehindBad("add", c -> c.add(0, 1));
+        goodBehindBad("drop", c -> c.drop(0));
+        goodBehindBad("move", c -> c.move(0, 0));
+        goodBehindBad("shift", c -> c.shift(0));
+        goodBehindBad("rule", c -> c.rule(0));
+        goodBehindBad("split", c -> c.split(3, 2));
+        goodBehindBad("gaps", ResidueCover::gaps);
+        goodBehindBad("weight", ResidueCover::weight);
+        goodBehindBad("alone", c -> c.alone(3));
+        goodBehindBad("needless", ResidueCover::needless);
+        goodBehindBad("fewest", ResidueCover::fewest);
+        goodBehindBad("fewestSet", ResidueCover::fewestSet);
+        goodBehindBad("meet", c -> c.meet(0, 1));
+        goodBehindBad("thick", ResidueCover::thick);
+        goodBehindBad("ask", ResidueCover::ask);
+        goodBehindBad("turnsBy", ResidueCover::turnsBy);
+        goodBehindBad("leafOf", c -> c.leafOf(0));
+        goodBehindBad("choices", c -> c.choices(0, 2, 2));
+        goodBehindBad("choiceAt", c -> c.choiceAt(0, 2, 2, 0));
+        goodBehindBad("game", c -> c.game(0));
+        goodBehindBad("moveOf", c -> c.moveOf(1));
+        goodBehindBad("uncaught", c -> c.uncaught(0, 0));
+        goodBehindBad("live", c -> c.live(0));
+        goodBehindBad("mean", c -> c.mean(0, 1));
+        goodBehindBad("mark", ResidueCover::mark);
+        goodBehindBad("undo", ResidueCover::undo);
+        zeroElseOfOthers();
+    }
+
+    /** Those that the rich object has no place for. */
+    private void zeroElseOfOthers() {
+        anew();
+        put("0/2+ 1/2+");
+        x.tray(0, 0, 4);
+        refused("turn", x.turn(99), 1);
+        gives("spread", x.spread(2), 4);
+        refused("turn", x.turn(99), 1);
+        gives("gapAt", x.gapAt(0), 1);
+        refused("turn", x.turn(99), 1);
+        gives("copySystem", x.copySystem(0), 2);
+        refused("turn", x.turn(99), 1);
+        gives("join", x.join(0, 2), 1);
     }
 
     private void fullOrder() {
