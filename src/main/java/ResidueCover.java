@@ -1244,22 +1244,22 @@ public final class ResidueCover {
             freeLeaves = 0;
             nodes = 0;
             widest = 0;
-            visit(all, all.on, 0, 1, span, 0);
+            visit(this, all, all.on, 0, 1, span, 0);
         }
 
         /** Only the classes that touch a node can touch a part of it, so the set shrinks on the way. */
-        private void visit(Classes all, int set, int a, int m, int span, int depth) {
-            nodes++;
-            widest = Math.max(widest, m);
+        private static void visit(Tree tree, Classes all, int set, int a, int m, int span, int depth) {
+            tree.nodes++;
+            tree.widest = Math.max(tree.widest, m);
             int touching = all.touching(set, a, m);
             if (touching == 0) {
-                freeLeaves++;
+                tree.freeLeaves++;
             } else if (all.anyModulusDivides(touching, m)) {
-                caughtLeaves++;
+                tree.caughtLeaves++;
             } else if (depth < MOST_DEPTH) {
                 int prime = leastPrimeOf(partBy(span, m));
                 for (int i = 0; i < prime; i++) {
-                    visit(all, touching, a + i * m, m * prime, span, depth + 1);
+                    visit(tree, all, touching, a + i * m, m * prime, span, depth + 1);
                 }
             }
         }
@@ -1313,12 +1313,12 @@ public final class ResidueCover {
 
         int countWays(int newSort) {
             begin(newSort);
-            return waysFrom(0, false);
+            return waysFrom(this, 0, false);
         }
 
         boolean findFirst(int newSort) {
             begin(newSort);
-            return waysFrom(0, true) > 0;
+            return waysFrom(this, 0, true) > 0;
         }
 
         int restAt(int k) {
@@ -1334,23 +1334,23 @@ public final class ResidueCover {
         }
 
         /** With justOne it ends at the first way found, whose rests are then in the row. */
-        private int waysFrom(int place, boolean justOne) {
-            if (place >= many) {
-                return sort == NOT_TWICE || isAllCaught(place) ? 1 : 0;
+        private static int waysFrom(Choices choices, int place, boolean justOne) {
+            if (place >= choices.many) {
+                return choices.sort == NOT_TWICE || choices.isAllCaught(place) ? 1 : 0;
             }
             // A shift makes of each way another one, so the first rest may stay 0.
-            int tries = place == 0 ? 1 : moduli[place];
+            int tries = place == 0 ? 1 : choices.moduli[place];
             int ways = 0;
             for (int rest = 0; rest < tries; rest++) {
-                rests[place] = rest;
-                if (lay(place, rest)) {
-                    ways += waysFrom(place + 1, justOne);
+                choices.rests[place] = rest;
+                if (choices.lay(place, rest)) {
+                    ways += waysFrom(choices, place + 1, justOne);
                 }
                 if (justOne && ways > 0) {
                     return ways;
                 }
             }
-            return place == 0 ? ways * moduli[0] : ways;
+            return place == 0 ? ways * choices.moduli[0] : ways;
         }
 
         /** Answers false if a number would be caught twice where that must not be. */

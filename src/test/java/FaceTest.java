@@ -2,11 +2,14 @@ import java.lang.reflect.Constructor;
 import java.lang.reflect.Field;
 import java.lang.reflect.Method;
 import java.lang.reflect.Modifier;
+import java.nio.file.Files;
+import java.nio.file.Path;
 import java.util.Set;
 import java.util.TreeSet;
 
 /** The class has the document's face and no other member that is not private. */
 public final class FaceTest {
+    private static final Path DOCUMENT = Path.of("../shared/DOC.md");
     private static final String[] FACE = {
         "int status()", "long top()", "long bottom()", "boolean tray(int,int,int)", "boolean write(int,int,long)",
         "long read(int,int)", "boolean pour(int,int,int,int,int)", "int feed(int,int,int,int,int)", "int system(int)",
@@ -26,7 +29,7 @@ public final class FaceTest {
         for (String line : FACE) {
             publicNames.add(line.substring(line.indexOf(' ') + 1, line.indexOf('(')));
         }
-        int wrong = 0;
+        int wrong = Files.isReadable(DOCUMENT) ? heldAgainst(Files.readString(DOCUMENT)) : 0;
         Class<?> face = ResidueCover.class;
         if (!Modifier.isPublic(face.getModifiers()) || !Modifier.isFinal(face.getModifiers())) {
             wrong += say("the class is not public and final");
@@ -56,6 +59,21 @@ public final class FaceTest {
             wrong += say("NONE is not -1");
         }
         System.exit(wrong == 0 ? 0 : 1);
+    }
+
+    /** The face as it is written here is the document's, in its order. */
+    private static int heldAgainst(String document) {
+        int from = document.indexOf("```java") + 7;
+        String[] lines = document.substring(from, document.indexOf("```", from)).trim().split("\\n");
+        String[] rest = {"public final class ResidueCover {", "public static final int NONE = -1;", "public ResidueCover();"};
+        int wrong = 0;
+        for (int i = 0; i < lines.length - 1; i++) {
+            String line = lines[i].trim();
+            String plain = line.replaceAll(" \\w+(?=[,)])", "").replace(", ", ",").replace("public ", "").replace(";", "");
+            boolean isSo = i < rest.length ? line.equals(rest[i]) : i - rest.length < FACE.length && plain.equals(FACE[i - rest.length]);
+            wrong += isSo ? 0 : say("the document's face has: " + line);
+        }
+        return wrong + (lines.length - 1 == rest.length + FACE.length ? 0 : say("the document's face has more or fewer calls"));
     }
 
     private static String lineOf(Method m) {
